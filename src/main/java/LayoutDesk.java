@@ -33,7 +33,7 @@ public final class LayoutDesk {
     private static final int CLASH = 5;
 
     /** Stands for a value that is not reckoned; no value that is reckoned comes near it. */
-    private static final int NOT_YET = Integer.MIN_VALUE;
+    private static final int NOT_YET = -1000000000;
     private static final int NOWHERE = -1;
 
     private static final int STEP_NUMBER = 0;

@@ -1,3 +1,6 @@
+import java.util.Arrays;
+import java.util.function.Supplier;
+
 /** What the tests share: typing a script, and comparing answers with what is due. */
 final class Check {
   private static int wrong = 0;
@@ -94,6 +97,31 @@ final class Check {
     same("lay of " + script, desk.lay(), 1);
     same("bad of " + script, desk.bad(), place);
     badState("copies after " + script, desk::copies);
+  }
+
+  /**
+   * Expects all memory to be so. Each half is read of a desk of its own, so that none is used for
+   * more calls than the document promises.
+   */
+  static void memory(String what, Supplier<LayoutDesk> made, int[] due) {
+    for (int half = 0; half < 512; half += 256) {
+      LayoutDesk desk = made.get();
+      for (int a = half; a < half + 256; a++) {
+        same(what + " memory " + a, desk.memory(a), due[a]);
+      }
+    }
+  }
+
+  /** All memory of one value. */
+  static int[] bytes(int rest) {
+    int[] bytes = new int[512];
+    Arrays.fill(bytes, rest);
+    return bytes;
+  }
+
+  /** Puts the values into the bytes, from the place on. */
+  static void set(int[] bytes, int place, int... values) {
+    System.arraycopy(values, 0, bytes, place, values.length);
   }
 
   static void end() {

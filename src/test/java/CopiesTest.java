@@ -2,6 +2,7 @@
 public final class CopiesTest {
   public static void main(String[] args) {
     inOrderOfTheScript();
+    eightSections();
     notCopied();
     refused();
     Check.end();
@@ -28,6 +29,23 @@ public final class CopiesTest {
     is(all, 2, 106, 5, 1);
     is(all, 3, 112, 7, 1);
     is(all, 6, 118, 13, 1);
+  }
+
+  private static void eightSections() {
+    StringBuilder script = new StringBuilder("MA=0,99;MB=100,99;");
+    for (int k = 0; k < 8; k++) {
+      script.append('S').append((char) ('H' - k)).append('@').append(2 * k + 1).append("{%2}>A^B;");
+    }
+    LayoutDesk desk = Check.laid(script.toString());
+    Check.same("copies of eight", desk.copies(), 8);
+    for (int k = 0; k < 8; k++) {
+      is(desk, k, 100 + 2 * k, 2 * k + 1, 1);
+    }
+    desk.load();
+    desk.start();
+    Check.same("the last one's place", desk.memory(15), 0);
+    Check.same("behind it", desk.memory(16), 170);
+    Check.noElement("a ninth copy", () -> desk.copy(8, 0));
   }
 
   private static void notCopied() {

@@ -36,6 +36,10 @@ public final class FitTest {
     Check.lays("MA=0,99;SB@6{a}>A;SA@0{b}>A;", 4);
     Check.lays("MA=0,99;SB@5{a}>A;SA@5{b}>A!;", 4);
     Check.lays("MA=0,99;SA@0{d}>A;SB@5{}>A;SC@9{e}>A;", 0);
+    Check.lays("MA=0,99;SB@5{}>A;SC@9{e}>A;SA@0{d}>A;", 0);
+    Check.lays("MA=0,99;SA@1{%2}>A;SB@1{%2}>A;", 4);
+    Check.lays("MA=0,99;SA@1{%2}>A;SB@0{b}>A;", 4);
+    Check.lays("MA=0,99;SB@0{b}>A;SA@1{%2}>A;", 4);
     Check.lays("MA=0,99;MB=5,99;SA{b}>A;SB{a}>B;", 0);
     Check.lays("MA=0,99;MB=4,99;SA{b}>A;SB{a}>B;", 4);
     // Apart where they run, but one is loaded where the other is.

@@ -17,6 +17,10 @@ public final class MalformedTest {
     Check.malformed(";", 0);
     Check.malformed("Yi=1;;", 5);
     Check.malformed("Yi=1;A", 5);
+    for (String cut : new String[] {"M", "MA", "MA=", "MA=1", "MA=1,", "S", "SA", "SA@", "SA@1", "SA{",
+        "SA{}", "SA{}>", "SA{%", "SA{$", "Y", "Yi", "Yi=", "Yi=1+", "Yi=/", "Yi=(1", "Yi=[1", "Yi=[1,"}) {
+      Check.malformed(cut + ";", cut.length());
+    }
     Check.malformed("Yi=1Yj", 4);
     Check.lays("Yi=1;", 0);
   }

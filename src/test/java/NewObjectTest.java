@@ -2,9 +2,7 @@
 public final class NewObjectTest {
   public static void main(String[] args) {
     LayoutDesk desk = new LayoutDesk();
-    for (int a = 0; a < 512; a++) {
-      Check.same("new memory " + a, desk.memory(a), 0);
-    }
+    Check.memory("new", LayoutDesk::new, Check.bytes(0));
     Check.same("bad of a new desk", desk.bad(), -1);
     Check.badState("new section", () -> desk.section(0, 0));
     Check.badState("new put", () -> desk.put(0));
