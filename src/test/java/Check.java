@@ -1,16 +1,46 @@
 import java.util.Arrays;
+import java.util.List;
+import java.util.function.Consumer;
 import java.util.function.Supplier;
 
 /** What the tests share: typing a script, and comparing answers with what is due. */
 final class Check {
   private static int wrong = 0;
+  private static String sentence = "";
 
   private Check() {}
 
+  /** The words of the document on which the checks behind it rest; a wrong answer is told with them. */
+  static void sentence(String words) {
+    sentence = words;
+  }
+
+  private static void tell(String what) {
+    wrong++;
+    System.out.println(what + (sentence.isEmpty() ? "" : " (\"" + sentence + "\")"));
+  }
+
   static void same(String what, long got, long due) {
     if (got != due) {
-      wrong++;
-      System.out.println(what + " answered " + got + ", due is " + due);
+      tell(what + " answered " + got + ", due is " + due);
+    }
+  }
+
+  static void same(String what, Object got, Object due) {
+    if (!got.equals(due)) {
+      tell(what + " answered " + got + ", due is " + due);
+    }
+  }
+
+  /** Tells only the first of the answers that are not as due. */
+  static void same(String what, List<?> got, List<?> due) {
+    for (int i = 0; i < Math.max(got.size(), due.size()); i++) {
+      Object one = i < got.size() ? got.get(i) : "nothing";
+      Object other = i < due.size() ? due.get(i) : "nothing";
+      if (!one.equals(other)) {
+        same(what + ", answer " + i, one, other);
+        return;
+      }
     }
   }
 
@@ -22,8 +52,7 @@ final class Check {
       got = e.getClass().getName();
     }
     if (!got.equals(due.getName())) {
-      wrong++;
-      System.out.println(what + " threw " + got + ", due is " + due.getName());
+      tell(what + " threw " + got + ", due is " + due.getName());
     }
   }
 
@@ -88,7 +117,7 @@ final class Check {
     same("lay of " + script, desk.lay(), due);
     same("bad of " + script, desk.bad(), -1);
     if (due != 0) {
-      badState("copies after " + script, desk::copies);
+      noLayout("after " + script, desk);
     }
   }
 
@@ -96,7 +125,33 @@ final class Check {
     LayoutDesk desk = typed(script);
     same("lay of " + script, desk.lay(), 1);
     same("bad of " + script, desk.bad(), place);
-    badState("copies after " + script, desk::copies);
+    noLayout("after " + script, desk);
+  }
+
+  /**
+   * Expects that the call is refused, and that a desk on which it was tried answers behind it as one
+   * on which it was not: at once, when it is laid out again, when more is typed, and in all memory.
+   */
+  static void refused(String what, Class<? extends RuntimeException> due, Supplier<LayoutDesk> made,
+      Consumer<LayoutDesk> call) {
+    Supplier<LayoutDesk> tried = () -> {
+      LayoutDesk desk = made.get();
+      raises(what, due, () -> call.accept(desk));
+      return desk;
+    };
+    same("the calls behind " + what, Answers.later(tried.get()), Answers.later(made.get()));
+    same("memory behind " + what, Answers.memory(tried), Answers.memory(made));
+  }
+
+  /** Expects that every call that asks for a layout is refused for want of one. */
+  static void noLayout(String what, LayoutDesk desk) {
+    badState("section " + what, () -> desk.section(0, 0));
+    badState("put " + what, () -> desk.put(0));
+    badState("symbol " + what, () -> desk.symbol(8));
+    badState("copies " + what, desk::copies);
+    badState("copy " + what, () -> desk.copy(0, 0));
+    badState("load " + what, desk::load);
+    badState("start " + what, desk::start);
   }
 
   /**

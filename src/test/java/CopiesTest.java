@@ -15,6 +15,7 @@ public final class CopiesTest {
   }
 
   private static void inOrderOfTheScript() {
+    Check.sentence("one for each section that is loaded elsewhere than it runs, in order of the script");
     LayoutDesk desk = Check.laid(
         "MA=0,99;MB=100,99;MC=201,99;SD{b}>A^B;SA{}>A^B;SC{e%8a}>A;SB{c%4}>C^B;SH{d}>C!;");
     Check.same("copies", desk.copies(), 2);
@@ -49,6 +50,19 @@ public final class CopiesTest {
   }
 
   private static void notCopied() {
+    Check.sentence("that is loaded elsewhere than it runs and has a size above 0");
+    for (int origin = 95; origin <= 104; origin++) {
+      // The address is raised to 96 or 104 where it is loaded; 0 bytes are never copied.
+      LayoutDesk desk = Check.laid("MA=0,512;MB=" + origin + ",99;SA@96{%8}>A^B;SB@95{%8}>A^B;");
+      Check.same("copies with one byte, loaded at " + origin, desk.copies(), 1);
+      is(desk, 0, origin <= 96 ? 96 : 104, 95, 1);
+      LayoutDesk here = Check.laid("MA=0,512;MB=" + origin + ",99;SA@100{}>A^B;");
+      Check.same("no copies of none", here.copies(), 0);
+    }
+    for (int origin : new int[] {80, 100, 120}) {
+      LayoutDesk desk = Check.laid("MA=0,512;MB=" + origin + ",99;SA@100{b}>A^B;");
+      Check.same("copies from " + origin + " to 100", desk.copies(), origin == 100 ? 0 : 1);
+    }
     Check.same("loaded where it runs", Check.laid("MA=0,99;SA{a}>A;").copies(), 0);
     Check.same("not loaded", Check.laid("MA=0,99;SA{a}>A!;").copies(), 0);
     Check.same("empty", Check.laid("MA=0,99;MB=100,99;SA{e}>A^B;").copies(), 0);
@@ -58,6 +72,7 @@ public final class CopiesTest {
   }
 
   private static void refused() {
+    Check.sentence("Of copy k. As for section.");
     LayoutDesk desk = Check.laid("MA=0,99;MB=100,99;SA{b}>A^B;");
     for (int what : new int[] {Integer.MIN_VALUE, -1, 3, Integer.MAX_VALUE}) {
       Check.badArgument("what " + what, () -> desk.copy(0, what));
@@ -66,6 +81,8 @@ public final class CopiesTest {
     for (int k : new int[] {Integer.MIN_VALUE, -1, 1, 8, Integer.MAX_VALUE}) {
       Check.noElement("copy " + k, () -> desk.copy(k, 0));
     }
+    is(desk, 0, 100, 0, 7);
+    Check.same("copies still", desk.copies(), 1);
     desk.clear();
     Check.badState("copies without layout", desk::copies);
     Check.badArgument("what before layout", () -> desk.copy(0, 3));

@@ -9,10 +9,12 @@ public final class MalformedTest {
     expressions();
     everyPrefix();
     badIsOfTheLatest();
+    badAtBothEnds();
     Check.end();
   }
 
   private static void statements() {
+    Check.sentence("A SCRIPT is a text of STATEMENTS, each with ; behind it");
     Check.malformed("m", 0);
     Check.malformed(";", 0);
     Check.malformed("Yi=1;;", 5);
@@ -26,6 +28,7 @@ public final class MalformedTest {
   }
 
   private static void regions() {
+    Check.sentence("M R = number , number: their sum is at most 512");
     Check.malformed("Ma", 1);
     Check.malformed("M=", 1);
     Check.malformed("ME=0,1;", 1);
@@ -46,6 +49,7 @@ public final class MalformedTest {
   }
 
   private static void sections() {
+    Check.sentence("S T: perhaps @ and an expression, then { ITEMS } > R, then perhaps ^ R or !");
     Check.malformed("MA=0,9;SI", 8);
     Check.malformed("MA=0,9;Sa", 8);
     Check.malformed("MA=0,9;SA(", 9);
@@ -70,6 +74,7 @@ public final class MalformedTest {
   }
 
   private static void items() {
+    Check.sentence("a .. h, an input; % number, an alignment (a power of 2 up to 64); $ v");
     Check.malformed("MA=0,99;SA{i}", 11);
     Check.malformed("MA=0,99;SA{A}", 11);
     Check.malformed("MA=0,99;SA{a,b}", 12);
@@ -91,6 +96,7 @@ public final class MalformedTest {
   }
 
   private static void symbols() {
+    Check.sentence("Y v = expression: symbol v (i .. z)");
     Check.malformed("Yh=1;", 1);
     Check.malformed("Y{=1;", 1);
     Check.malformed("YA=1;", 1);
@@ -101,6 +107,7 @@ public final class MalformedTest {
   }
 
   private static void expressions() {
+    Check.sentence("An EXPRESSION: TERMS with + or - between");
     Check.malformed("Yi=-1;", 3);
     Check.malformed("Yi=+1;", 3);
     Check.malformed("Yi=1+-1;", 5);
@@ -139,6 +146,7 @@ public final class MalformedTest {
 
   /** A script that is cut off is malformed where it ends, but for cuts between statements. */
   private static void everyPrefix() {
+    Check.sentence("or where the script ends");
     String script = "MA=0,128;MB=256,64;SA@[5+(2-1),4]{a%8b$i}>A;SB{c}>B^A;SC{}>B!;Yj=i-/A+|B+#B;";
     for (int n = 1; n <= script.length(); n++) {
       String prefix = script.substring(0, n);
@@ -150,7 +158,21 @@ public final class MalformedTest {
     }
   }
 
+  private static void badAtBothEnds() {
+    Check.sentence("the place of the first character that can't stand there, or where the script ends");
+    Check.malformed("X" + "Y".repeat(159), 0);
+    Check.malformed("!", 0);
+    Check.malformed("Yi=1" + "+1".repeat(78), 160);
+    Check.malformed("Yi=1" + "+1".repeat(77) + ";!", 159);
+    Check.malformed("Yi=1" + "+1".repeat(77) + ";Y", 160);
+    Check.malformed("Yi=1" + "+1".repeat(77) + ",;", 158);
+    Check.malformed("MA=0,99;SA{" + "%1".repeat(74), 159);
+    Check.malformed("MA=0,99;SA{" + "%1".repeat(74) + "a", 160);
+    Check.malformed("MA=0,99;SA{" + "%1".repeat(74) + "i", 159);
+  }
+
   private static void badIsOfTheLatest() {
+    Check.sentence("Where the latest script was malformed; -1 when it was not");
     LayoutDesk desk = Check.typed("Yi=1;X");
     Check.same("before lay", desk.bad(), -1);
     Check.same("malformed", desk.lay(), 1);
@@ -167,5 +189,27 @@ public final class MalformedTest {
     Check.retype(desk, "Yi=1;");
     Check.same("laid", desk.lay(), 0);
     Check.same("fine", desk.bad(), -1);
+    for (String script : new String[] {"MA=0,9;SA{a}>A;", "MA=0,99;SA@0{a}>A;SB@0{b}>A;",
+        "MA=0,99;MB=1,99;SA{b}>A^B;", ""}) {
+      Check.retype(desk, "YY");
+      Check.same("malformed before " + script, desk.lay(), 1);
+      Check.same("where before " + script, desk.bad(), 1);
+      Check.retype(desk, script);
+      Check.same("malformed " + script, desk.lay() == 1, false);
+      Check.same("nowhere in " + script, desk.bad(), -1);
+    }
+    staysUntilItIsLaidOutAgain();
+  }
+
+  /** The document leaves this open; the program takes the script that was laid out as the latest. */
+  private static void staysUntilItIsLaidOutAgain() {
+    LayoutDesk desk = Check.typed("Yi=1;X");
+    Check.same("malformed", desk.lay(), 1);
+    desk.type(';', 1);
+    Check.same("where, with more typed", desk.bad(), 5);
+    desk.input(0, 1, 1, 1);
+    Check.same("where, with an input told", desk.bad(), 5);
+    desk.clear();
+    Check.same("where, cleared", desk.bad(), 5);
   }
 }

@@ -4,10 +4,10 @@ public final class StartTest {
     copiesAndBlanks();
     chained();
     neighbours();
+    endsOfMemory();
+    nothingToDo();
     withoutLoad();
-    LayoutDesk desk = Check.laid("MA=0,99;SA{a}>A!;");
-    desk.clear();
-    Check.badState("no layout", desk::start);
+    refused();
     Check.end();
   }
 
@@ -19,6 +19,7 @@ public final class StartTest {
   }
 
   private static void copiesAndBlanks() {
+    Check.sentence("Does the copies in order; then what is not loaded becomes 0 where it runs");
     String script = "MA=0,99;MB=200,99;SA{b}>A^B;SB{%4c}>A!;SC{a}>A;";
     // B runs from 8 up to 13, C from 16 up to 26; A stays as well where it is loaded.
     int[] due = Check.bytes(170);
@@ -41,6 +42,7 @@ public final class StartTest {
 
   /** The second copy goes where the first one has read; what is not loaded is blanked last. */
   private static void chained() {
+    Check.sentence("Does the copies in order; then what is not loaded becomes 0");
     LayoutDesk desk = Check.laid("MA=0,99;MB=100,99;MC=200,99;MD=0,99;SA{b}>C^D;SB{a}>A^B;"
         + "SC@100{e%4}>B!;SD@102{%8}>B!;");
     desk.load();
@@ -60,6 +62,7 @@ public final class StartTest {
 
   /** What lies right behind the bytes of a copy is not copied. */
   private static void neighbours() {
+    Check.sentence("byte by byte from the first on");
     LayoutDesk desk = started("MA=0,99;MB=200,99;SA@20{b}>A^B;SB@207{%16}>B;");
     Check.same("before A", desk.memory(19), 170);
     Check.same("A", desk.memory(20), 100);
@@ -68,7 +71,48 @@ public final class StartTest {
     Check.same("behind A, where it is loaded", desk.memory(207), 0);
   }
 
+  private static void endsOfMemory() {
+    // b has 7 bytes: from one end of memory to the other, either way, and blanks at both ends.
+    int[] up = Check.bytes(170);
+    Check.set(up, 0, 100, 101, 102, 103, 104, 105, 106);
+    Check.set(up, 505, 100, 101, 102, 103, 104, 105, 106);
+    Check.memory("to the end", () -> started("MA=505,7;MB=0,7;SA{b}>A^B;"), up);
+    Check.memory("from the end", () -> started("MA=0,7;MB=505,7;SA{b}>A^B;"), up);
+    int[] blank = Check.bytes(170);
+    Check.set(blank, 0, 0, 0, 0, 0, 0, 0, 0);
+    Check.set(blank, 511, 0);
+    Check.memory("blank at both ends", () -> started("MA=0,512;SA{b}>A!;SB@511{%64}>A!;"), blank);
+  }
+
+  private static void nothingToDo() {
+    Check.memory("no script", () -> started(""), Check.bytes(170));
+    Check.memory("empty sections", () -> started(
+        "MA=0,512;MB=512,0;SA{}>A;SB@9{}>A^B;SC@512{}>A!;SD@0{e}>A!;SE{}>B!;"), Check.bytes(170));
+    int[] here = Check.bytes(170);
+    Check.set(here, 9, 100, 101, 102, 103, 104, 105, 106);
+    Check.memory("where it is loaded", () -> started("MA=9,9;SA{b}>A;"), here);
+    Check.memory("in another region there", () -> started("MA=9,9;MB=9,9;SA{b}>A^B;"), here);
+  }
+
+  private static void refused() {
+    Check.sentence("IllegalStateException: there is no layout");
+    int[] due = Check.bytes(170);
+    Check.set(due, 200, 100, 101, 102, 103, 104, 105, 106);
+    Check.memory("not started", () -> {
+      LayoutDesk desk = Check.laid("MA=0,99;MB=200,99;SA{b}>A^B;SB{c}>A!;");
+      desk.load();
+      desk.clear();
+      Check.badState("start without a layout", desk::start);
+      Check.type(desk, "MA=0,9;SA{c}>A!;SB{d}>A;");
+      Check.badState("start before lay", desk::start);
+      Check.same("overflow", desk.lay(), 3);
+      Check.badState("start of a layout that failed", desk::start);
+      return desk;
+    }, due);
+  }
+
   private static void withoutLoad() {
+    Check.sentence("Does the copies in order");
     Check.memory("without load", () -> {
       LayoutDesk desk = Check.laid("MA=0,99;MB=200,99;SA{b}>A^B;SB{c}>A!;");
       desk.start();
