@@ -1,4 +1,3 @@
-import java.util.Arrays;
 import java.util.NoSuchElementException;
 
 /**
@@ -928,8 +927,8 @@ public final class LayoutDesk {
         private final int[] bytes = new int[MEMORY_SIZE];
 
         void fill(int begin, int size, int value) {
-            if (begin >= 0 && size >= 0 && begin + size <= MEMORY_SIZE) {
-                Arrays.fill(bytes, begin, begin + size, value);
+            for (int i = 0; i < size; i++) {
+                store(begin + i, value);
             }
         }
 
